@@ -1,3 +1,4 @@
+import java.util.function.BooleanSupplier;
 import java.util.function.IntSupplier;
 
 /** Counts the answers that are not the ones that are due. */
@@ -8,6 +9,14 @@ final class Check {
 
     Check(String title) {
         this.title = title;
+    }
+
+    int asked() {
+        return asked;
+    }
+
+    int wrong() {
+        return wrong;
     }
 
     void same(String what, Object due, Object got) {
@@ -27,15 +36,39 @@ final class Check {
         }
     }
 
+    static String answer(BooleanSupplier call) {
+        try {
+            return Boolean.toString(call.getAsBoolean());
+        } catch (RuntimeException e) {
+            return e.getClass().getSimpleName();
+        }
+    }
+
     void is(String what, int due, IntSupplier call) {
         same(what, Integer.toString(due), answer(call));
+    }
+
+    void isTrue(String what, BooleanSupplier call) {
+        same(what, "true", answer(call));
+    }
+
+    void isFalse(String what, BooleanSupplier call) {
+        same(what, "false", answer(call));
     }
 
     void throwsIndex(String what, IntSupplier call) {
         same(what, "IndexOutOfBoundsException", answer(call));
     }
 
+    void throwsIndex(String what, BooleanSupplier call) {
+        same(what, "IndexOutOfBoundsException", answer(call));
+    }
+
     void throwsArgument(String what, IntSupplier call) {
+        same(what, "IllegalArgumentException", answer(call));
+    }
+
+    void throwsArgument(String what, BooleanSupplier call) {
         same(what, "IllegalArgumentException", answer(call));
     }
 

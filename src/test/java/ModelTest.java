@@ -93,7 +93,8 @@ public final class ModelTest {
     }
 
     private void makeNode(boolean isPlain) {
-        int head = random.nextInt(2) == 0 ? random.nextInt(Math.min(2, spread)) : 5 + random.nextInt(Math.min(2, spread));
+        int firstHead = random.nextInt(2) == 0 ? 0 : 5;
+        int head = firstHead + random.nextInt(Math.min(2, spread));
         both("node(" + head + ")", () -> real.node(head), () -> model.node(head));
         int node = model.trees.size() - 1;
         int most = random.nextInt(random.nextInt(10) == 0 ? 14 : 6);
@@ -135,7 +136,8 @@ public final class ModelTest {
     }
 
     private void addPart(int node, int part) {
-        both("more(" + node + ", " + part + ")", () -> real.more(node, part) ? 1 : 0, () -> model.more(node, part) ? 1 : 0);
+        both("more(" + node + ", " + part + ")",
+                () -> real.more(node, part) ? 1 : 0, () -> model.more(node, part) ? 1 : 0);
     }
 
     private void addTest() {

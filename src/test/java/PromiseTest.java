@@ -1,12 +1,5 @@
 /** Each promise of the document by itself: ordinary inputs, the edges that it names, wrong inputs. */
 public final class PromiseTest {
-    private static final int LOW = Integer.MIN_VALUE;
-    private static final int HIGH = Integer.MAX_VALUE;
-    private static final int ONE = 0;
-    private static final int LEAF = 1;
-    private static final int SOME = 2;
-    private static final int MANY = 3;
-
     private static final Check check = new Check("PromiseTest");
 
     public static void main(String[] args) {
@@ -44,29 +37,6 @@ public final class PromiseTest {
         check.end();
     }
 
-    /** A node of this head with these parts. */
-    private static int node(SequenceMatch x, int head, int... parts) {
-        int node = x.node(head);
-        for (int part : parts) {
-            x.more(node, part);
-        }
-        return node;
-    }
-
-    private static int leaves(SequenceMatch x, int head, int... names) {
-        int node = x.node(head);
-        for (int name : names) {
-            x.more(node, x.leaf(name));
-        }
-        return node;
-    }
-
-    private static void fill(SequenceMatch x) {
-        while (x.count(0) < 240) {
-            x.leaf(0);
-        }
-    }
-
     private static void newObject() {
         SequenceMatch x = new SequenceMatch();
         check.is("no trees", 0, () -> x.count(0));
@@ -88,10 +58,10 @@ public final class PromiseTest {
         check.is("the same name again", 2, () -> x.leaf(99));
         check.throwsArgument("name -1", () -> x.leaf(-1));
         check.throwsArgument("name 100", () -> x.leaf(100));
-        check.throwsArgument("lowest name", () -> x.leaf(LOW));
-        check.throwsArgument("highest name", () -> x.leaf(HIGH));
+        check.throwsArgument("lowest name", () -> x.leaf(Build.LOW));
+        check.throwsArgument("highest name", () -> x.leaf(Build.HIGH));
         check.is("nothing changed", 3, () -> x.count(0));
-        fill(x);
+        Build.fill(x);
         check.throwsState("no room", () -> x.leaf(0));
         check.throwsArgument("no such name goes ahead of no room", () -> x.leaf(100));
         check.is("240 trees", 240, () -> x.count(0));
@@ -104,59 +74,55 @@ public final class PromiseTest {
         check.is("without parts", 0, () -> x.parts(1));
         check.throwsArgument("head -1", () -> x.node(-1));
         check.throwsArgument("head 10", () -> x.node(10));
-        fill(x);
+        Build.fill(x);
         check.throwsState("no room", () -> x.node(0));
         check.throwsArgument("no such head goes ahead of no room", () -> x.node(10));
-    }
-
-    private static int asNumber(boolean b) {
-        return b ? 1 : 0;
     }
 
     private static void more() {
         SequenceMatch x = new SequenceMatch();
         int leaf = x.leaf(1);
-        int hole = x.hole(0, ONE);
+        int hole = x.hole(0, Build.ONE);
         int inner = x.node(0);
         int outer = x.node(0);
-        check.is("a part", 1, () -> asNumber(x.more(outer, leaf)));
-        check.is("the same part again", 1, () -> asNumber(x.more(outer, leaf)));
-        check.is("a node", 1, () -> asNumber(x.more(outer, inner)));
+        check.isTrue("a part", () -> x.more(outer, leaf));
+        check.isTrue("the same part again", () -> x.more(outer, leaf));
+        check.isTrue("a node", () -> x.more(outer, inner));
         check.is("they stand as they come", inner, () -> x.part(outer, 2));
-        check.throwsArgument("a part already", () -> asNumber(x.more(inner, leaf)));
-        check.throwsArgument("a leaf is no node", () -> asNumber(x.more(leaf, leaf)));
-        check.throwsArgument("a hole is no node", () -> asNumber(x.more(hole, leaf)));
-        check.throwsArgument("the node itself", () -> asNumber(x.more(outer, outer)));
-        check.throwsIndex("no such node", () -> asNumber(x.more(4, leaf)));
-        check.throwsIndex("no such part", () -> asNumber(x.more(outer, 4)));
-        check.throwsIndex("no such part goes ahead of no node", () -> asNumber(x.more(leaf, -1)));
-        check.throwsIndex("node -1", () -> asNumber(x.more(LOW, leaf)));
+        check.throwsArgument("a part already", () -> x.more(inner, leaf));
+        check.throwsArgument("a leaf is no node", () -> x.more(leaf, leaf));
+        check.throwsArgument("a hole is no node", () -> x.more(hole, leaf));
+        check.throwsArgument("the node itself", () -> x.more(outer, outer));
+        check.throwsIndex("no such node", () -> x.more(4, leaf));
+        check.throwsIndex("no such part", () -> x.more(outer, 4));
+        check.throwsIndex("no such part goes ahead of no node", () -> x.more(leaf, -1));
+        check.throwsIndex("node -1", () -> x.more(Build.LOW, leaf));
         check.is("nothing changed", 3, () -> x.parts(outer));
         int ruled = x.node(0);
         x.rule(ruled);
-        check.throwsArgument("a rule already", () -> asNumber(x.more(ruled, leaf)));
-        check.is("a rule may be a part", 1, () -> asNumber(x.more(outer, ruled)));
+        check.throwsArgument("a rule already", () -> x.more(ruled, leaf));
+        check.isTrue("a rule may be a part", () -> x.more(outer, ruled));
     }
 
     private static void moreLimits() {
         SequenceMatch x = new SequenceMatch();
         int leaf = x.leaf(1);
-        int full = node(x, 0, leaf, leaf, leaf, leaf, leaf, leaf, leaf, leaf, leaf, leaf, leaf);
-        check.is("part 12", 1, () -> asNumber(x.more(full, leaf)));
-        check.is("no part 13", 0, () -> asNumber(x.more(full, leaf)));
+        int full = Build.node(x, 0, leaf, leaf, leaf, leaf, leaf, leaf, leaf, leaf, leaf, leaf, leaf);
+        check.isTrue("part 12", () -> x.more(full, leaf));
+        check.isFalse("no part 13", () -> x.more(full, leaf));
         check.is("still 12", 12, () -> x.parts(full));
         int free = x.node(0);
-        check.is("refused for the 12", 0, () -> asNumber(x.more(full, free)));
-        check.is("what was refused is no part", 1, () -> asNumber(x.more(free, leaf)));
-        check.throwsArgument("the node itself goes ahead of false", () -> asNumber(x.more(full, full)));
+        check.isFalse("refused for the 12", () -> x.more(full, free));
+        check.isTrue("what was refused is no part", () -> x.more(free, leaf));
+        check.throwsArgument("the node itself goes ahead of false", () -> x.more(full, full));
 
         // 13 trees each: 1 + 5 * 13 = 66 trees.
-        int wide = node(x, 1, full, full, full, full, full);
-        int four = node(x, 0, leaf, leaf, leaf);
-        int five = node(x, 0, leaf, leaf, leaf, leaf);
-        check.throwsArgument("71 trees", () -> asNumber(x.more(wide, five)));
-        check.is("70 trees", 1, () -> asNumber(x.more(wide, four)));
-        check.throwsArgument("one more", () -> asNumber(x.more(wide, leaf)));
+        int wide = Build.node(x, 1, full, full, full, full, full);
+        int four = Build.node(x, 0, leaf, leaf, leaf);
+        int five = Build.node(x, 0, leaf, leaf, leaf, leaf);
+        check.throwsArgument("71 trees", () -> x.more(wide, five));
+        check.isTrue("70 trees", () -> x.more(wide, four));
+        check.throwsArgument("one more", () -> x.more(wide, leaf));
         check.is("six parts", 6, () -> x.parts(wide));
         check.is("70 trees match themselves", 1, () -> x.match(wide, wide, 400));
         check.is("by a try each", 70, x::tried);
@@ -168,7 +134,7 @@ public final class PromiseTest {
         for (int depth = 0; depth < 20; depth++) {
             int outer = x.node(0);
             int part = deep;
-            check.is("a part " + depth + " deep", 1, () -> asNumber(x.more(outer, part)));
+            check.isTrue("a part " + depth + " deep", () -> x.more(outer, part));
             deep = outer;
         }
         return deep;
@@ -180,16 +146,16 @@ public final class PromiseTest {
         int deepest = deepest(x, leaf);
         int other = deepest(x, x.leaf(2));
         int top = x.node(0);
-        check.throwsArgument("a part 20 deep", () -> asNumber(x.more(top, deepest)));
+        check.throwsArgument("a part 20 deep", () -> x.more(top, deepest));
         check.is("nothing changed", 0, () -> x.parts(top));
         check.is("the deepest parts differ", -1, () -> x.order(deepest, other));
         check.is("so it is no match", 0, () -> x.match(deepest, other, 400));
         check.is("by 21 tries", 21, x::tried);
-        check.is("it may take parts itself", 1, () -> asNumber(x.more(deepest, leaf)));
+        check.isTrue("it may take parts itself", () -> x.more(deepest, leaf));
         check.is("it matches itself", 1, () -> x.match(deepest, deepest, 400));
         check.is("by 22 tries", 22, x::tried);
         int bare = deepest(x, x.node(3));
-        check.throwsArgument("a node without parts is 0 deep, as a leaf is", () -> asNumber(x.more(top, bare)));
+        check.throwsArgument("a node without parts is 0 deep, as a leaf is", () -> x.more(top, bare));
     }
 
     private static void moreInOrder() {
@@ -198,20 +164,20 @@ public final class PromiseTest {
         int one = x.leaf(1);
         int oneAgain = x.leaf(1);
         int inner = x.node(0);
-        int hole = x.hole(0, MANY);
-        int any = node(x, 5, inner, three, oneAgain, one);
+        int hole = x.hole(0, Build.MANY);
+        int any = Build.node(x, 5, inner, three, oneAgain, one);
         check.is("equal ones as they came", oneAgain, () -> x.part(any, 0));
         check.is("the second of them", one, () -> x.part(any, 1));
         check.is("then the higher name", three, () -> x.part(any, 2));
         check.is("nodes behind leaves", inner, () -> x.part(any, 3));
-        int mixed = node(x, 9, three, one, hole, oneAgain, one);
+        int mixed = Build.node(x, 9, three, one, hole, oneAgain, one);
         check.is("in order while it is plain", one, () -> x.part(mixed, 0));
         check.is("the other", three, () -> x.part(mixed, 1));
         check.is("a hole stands as it comes", hole, () -> x.part(mixed, 2));
         check.is("so do those behind it", oneAgain, () -> x.part(mixed, 3));
-        int nested = node(x, 6, three, node(x, 0, hole), one);
+        int nested = Build.node(x, 6, three, Build.node(x, 0, hole), one);
         check.is("a part with a hole within it, too", one, () -> x.part(nested, 2));
-        int row = node(x, 4, three, one);
+        int row = Build.node(x, 4, three, one);
         check.is("other heads have them as they come", three, () -> x.part(row, 0));
     }
 
@@ -225,38 +191,38 @@ public final class PromiseTest {
         check.throwsArgument("kind 4", () -> x.hole(0, 4));
         check.is("no parts", 0, () -> x.parts(1));
         check.throwsArgument("it isn't plain", () -> x.net(1));
-        fill(x);
+        Build.fill(x);
         check.throwsState("no room", () -> x.hole(0, 0));
         check.throwsArgument("no such kind goes ahead of no room", () -> x.hole(0, 4));
     }
 
     private static void test() {
         SequenceMatch x = new SequenceMatch();
-        int hole = x.hole(0, ONE);
+        int hole = x.hole(0, Build.ONE);
         int leaf = x.leaf(5);
         int node = x.node(0);
-        check.throwsIndex("no such tree", () -> asNumber(x.test(3, 0, 0)));
-        check.throwsIndex("it goes ahead of no such kind", () -> asNumber(x.test(-1, 9, 0)));
-        check.throwsArgument("a leaf is no hole", () -> asNumber(x.test(leaf, 0, 0)));
-        check.throwsArgument("a node is no hole", () -> asNumber(x.test(node, 0, 0)));
-        check.throwsArgument("kind 5", () -> asNumber(x.test(hole, 5, 0)));
-        check.throwsArgument("kind -1", () -> asNumber(x.test(hole, -1, 0)));
-        check.is("a first", 1, () -> asNumber(x.test(hole, 0, LOW)));
-        check.is("a second", 1, () -> asNumber(x.test(hole, 1, HIGH)));
-        check.is("a third", 1, () -> asNumber(x.test(hole, 0, 4)));
-        check.is("no fourth", 0, () -> asNumber(x.test(hole, 0, 9)));
-        check.throwsArgument("no such kind goes ahead of false", () -> asNumber(x.test(hole, 5, 0)));
+        check.throwsIndex("no such tree", () -> x.test(3, 0, 0));
+        check.throwsIndex("it goes ahead of no such kind", () -> x.test(-1, 9, 0));
+        check.throwsArgument("a leaf is no hole", () -> x.test(leaf, 0, 0));
+        check.throwsArgument("a node is no hole", () -> x.test(node, 0, 0));
+        check.throwsArgument("kind 5", () -> x.test(hole, 5, 0));
+        check.throwsArgument("kind -1", () -> x.test(hole, -1, 0));
+        check.isTrue("a first", () -> x.test(hole, 0, Build.LOW));
+        check.isTrue("a second", () -> x.test(hole, 1, Build.HIGH));
+        check.isTrue("a third", () -> x.test(hole, 0, 4));
+        check.isFalse("no fourth", () -> x.test(hole, 0, 9));
+        check.throwsArgument("no such kind goes ahead of false", () -> x.test(hole, 5, 0));
         check.is("the fourth isn't asked", 1, () -> x.match(hole, leaf, 1));
         int four = x.leaf(4);
         check.is("the third is", 0, () -> x.match(hole, four, 1));
-        int used = x.hole(1, ONE);
-        node(x, 0, used);
-        check.is("a hole that is a part takes tests", 1, () -> asNumber(x.test(used, 0, 0)));
+        int used = x.hole(1, Build.ONE);
+        Build.node(x, 0, used);
+        check.isTrue("a hole that is a part takes tests", () -> x.test(used, 0, 0));
     }
 
     /** How many matches a hole ONE with this test has with a tree. */
     private static int tested(SequenceMatch x, int kind, int v, int tree) {
-        int hole = x.hole(0, ONE);
+        int hole = x.hole(0, Build.ONE);
         x.test(hole, kind, v);
         return x.match(hole, tree, 1);
     }
@@ -273,7 +239,7 @@ public final class PromiseTest {
         check.is("a node is below nothing", 0, () -> tested(x, 1, 6, node));
         check.is("one at least", 1, () -> tested(x, 2, 1, five));
         check.is("not two", 0, () -> tested(x, 2, 2, five));
-        check.is("fewer than none", 1, () -> tested(x, 2, LOW, node));
+        check.is("fewer than none", 1, () -> tested(x, 2, Build.LOW, node));
         check.is("head 5", 1, () -> tested(x, 3, 5, node));
         check.is("not head 4", 0, () -> tested(x, 3, 4, node));
         check.is("a leaf 5 has no head", 0, () -> tested(x, 3, 5, five));
@@ -283,13 +249,13 @@ public final class PromiseTest {
 
     /** Matches of a node with one hole MANY, with this test, beside nodes of 0, 1 and 2 leaves 5, as three digits. */
     private static int testedRows(SequenceMatch x, int kind, int v) {
-        int hole = x.hole(0, MANY);
+        int hole = x.hole(0, Build.MANY);
         x.test(hole, kind, v);
-        int pattern = node(x, 0, hole);
+        int pattern = Build.node(x, 0, hole);
         int digits = 0;
-        digits += 100 * x.match(pattern, leaves(x, 0), 400);
-        digits += 10 * x.match(pattern, leaves(x, 0, 5), 400);
-        digits += x.match(pattern, leaves(x, 0, 5, 5), 400);
+        digits += 100 * x.match(pattern, Build.leaves(x, 0), 400);
+        digits += 10 * x.match(pattern, Build.leaves(x, 0, 5), 400);
+        digits += x.match(pattern, Build.leaves(x, 0, 5, 5), 400);
         return digits;
     }
 
@@ -314,7 +280,7 @@ public final class PromiseTest {
         check.is("another name", 0, () -> x.match(leaf, other, 400));
         check.is("a leaf isn't a node", 0, () -> x.match(leaf, node, 400));
         check.is("a node isn't a leaf", 0, () -> x.match(node, leaf, 400));
-        for (int kind = ONE; kind <= MANY; kind++) {
+        for (int kind = Build.ONE; kind <= Build.MANY; kind++) {
             int hole = x.hole(3, kind);
             check.is("a leaf beside kind " + kind, 1, () -> x.match(hole, leaf, 1));
             check.is("it has one tree", 1, () -> x.many(0, 3));
@@ -325,7 +291,7 @@ public final class PromiseTest {
         check.is("nodes without parts", 1, () -> x.match(node, node, 400));
         int head6 = x.node(6);
         check.is("another head", 0, () -> x.match(head6, node, 400));
-        int filled = leaves(x, 7, 1);
+        int filled = Build.leaves(x, 7, 1);
         check.is("a row of none beside a part", 0, () -> x.match(node, filled, 400));
         check.is("a part beside none", 0, () -> x.match(filled, node, 400));
         check.is("which is no try", 1, x::tried);
@@ -333,10 +299,10 @@ public final class PromiseTest {
 
     private static void matchRows() {
         SequenceMatch x = new SequenceMatch();
-        int tree = leaves(x, 0, 1, 2, 3);
-        int same = leaves(x, 0, 1, 2, 3);
-        int turned = leaves(x, 0, 2, 1, 3);
-        int shorter = leaves(x, 0, 1, 2);
+        int tree = Build.leaves(x, 0, 1, 2, 3);
+        int same = Build.leaves(x, 0, 1, 2, 3);
+        int turned = Build.leaves(x, 0, 2, 1, 3);
+        int shorter = Build.leaves(x, 0, 1, 2);
         check.is("the same row", 1, () -> x.match(same, tree, 400));
         check.is("four tries", 4, x::tried);
         check.is("turned", 0, () -> x.match(turned, tree, 400));
@@ -346,9 +312,9 @@ public final class PromiseTest {
         check.is("none is left for a part", 0, () -> x.match(tree, shorter, 400));
         check.is("three tries, too", 3, x::tried);
 
-        int some = x.hole(0, SOME);
-        int many = x.hole(1, MANY);
-        int pattern = node(x, 0, some, many);
+        int some = x.hole(0, Build.SOME);
+        int many = x.hole(1, Build.MANY);
+        int pattern = Build.node(x, 0, some, many);
         check.is("SOME, MANY", 3, () -> x.match(pattern, tree, 400));
         // 1 and, for 1, 2, 3 trees beside SOME: 1 + 3, 1 + 2, 1 + 1.
         check.is("ten tries", 10, x::tried);
@@ -359,8 +325,8 @@ public final class PromiseTest {
             check.is("from the first on", x.part(tree, 0), () -> x.bound(match, 0, 0));
         }
         int empty = x.node(0);
-        int onlyMany = node(x, 0, many);
-        int onlySome = node(x, 0, some);
+        int onlyMany = Build.node(x, 0, many);
+        int onlySome = Build.node(x, 0, some);
         check.is("MANY beside none", 1, () -> x.match(onlyMany, empty, 400));
         check.is("a try, too", 2, x::tried);
         check.is("it has none", 0, () -> x.many(0, 1));
@@ -370,10 +336,10 @@ public final class PromiseTest {
 
     private static void matchAnyOrder() {
         SequenceMatch x = new SequenceMatch();
-        int tree = leaves(x, 5, 1, 2, 3, 4);
-        int many = x.hole(0, MANY);
-        int rest = x.hole(1, MANY);
-        int pattern = node(x, 5, many, rest);
+        int tree = Build.leaves(x, 5, 1, 2, 3, 4);
+        int many = x.hole(0, Build.MANY);
+        int rest = x.hole(1, Build.MANY);
+        int pattern = Build.node(x, 5, many, rest);
         check.is("16 ways", 16, () -> x.match(pattern, tree, 400));
         // 1 and, for each choice of k of 4, 1 + 2^(4 - k).
         check.is("tries", 1 + 16 + 81, x::tried);
@@ -385,48 +351,48 @@ public final class PromiseTest {
             }
             check.same("choice " + m, due[m], got.toString());
         }
-        int one = x.hole(2, ONE);
-        int three = node(x, 5, one, x.leaf(3), x.hole(3, SOME));
+        int one = x.hole(2, Build.ONE);
+        int three = Build.node(x, 5, one, x.leaf(3), x.hole(3, Build.SOME));
         check.is("one of those left, a leaf, the others", 3, () -> x.match(three, tree, 400));
         check.is("the first first", tree + 1, () -> x.bound(0, 2, 0));
         check.is("then the second", tree + 2, () -> x.bound(1, 2, 0));
         check.is("the third is the leaf's", tree + 4, () -> x.bound(2, 2, 0));
         check.is("those left", tree + 1, () -> x.bound(2, 3, 0));
-        int twice = leaves(x, 5, 6, 6);
+        int twice = Build.leaves(x, 5, 6, 6);
         check.is("equal trees are ways of their own", 2, () -> x.match(twice, twice, 400));
-        int inRow = leaves(x, 4, 1, 2);
-        int rowTurned = leaves(x, 4, 2, 1);
+        int inRow = Build.leaves(x, 4, 1, 2);
+        int rowTurned = Build.leaves(x, 4, 2, 1);
         check.is("head 4 is in a row", 0, () -> x.match(rowTurned, inRow, 400));
     }
 
     private static void matchNames() {
         SequenceMatch x = new SequenceMatch();
-        int hole = x.hole(0, ONE);
-        int pair = node(x, 0, hole, hole);
-        int same = leaves(x, 0, 4, 4);
-        int other = leaves(x, 0, 4, 5);
+        int hole = x.hole(0, Build.ONE);
+        int pair = Build.node(x, 0, hole, hole);
+        int same = Build.leaves(x, 0, 4, 4);
+        int other = Build.leaves(x, 0, 4, 5);
         check.is("the same again", 1, () -> x.match(pair, same, 400));
         check.is("the name has the first of them", x.part(same, 0), () -> x.bound(0, 0, 0));
         check.is("one tree", 1, () -> x.many(0, 0));
         check.is("another one", 0, () -> x.match(pair, other, 400));
         check.is("three tries", 3, x::tried);
-        int nested = node(x, 0, leaves(x, 6, 2, 1), leaves(x, 6, 1, 2));
+        int nested = Build.node(x, 0, Build.leaves(x, 6, 2, 1), Build.leaves(x, 6, 1, 2));
         check.is("equal nodes", 1, () -> x.match(pair, nested, 400));
 
-        int many = x.hole(1, MANY);
-        int manyAgain = x.hole(1, MANY);
-        int rows = node(x, 0, many, x.leaf(9), manyAgain);
-        int even = leaves(x, 0, 1, 2, 9, 1, 2);
-        int uneven = leaves(x, 0, 1, 2, 9, 1);
-        int bare = leaves(x, 0, 9);
+        int many = x.hole(1, Build.MANY);
+        int manyAgain = x.hole(1, Build.MANY);
+        int rows = Build.node(x, 0, many, x.leaf(9), manyAgain);
+        int even = Build.leaves(x, 0, 1, 2, 9, 1, 2);
+        int uneven = Build.leaves(x, 0, 1, 2, 9, 1);
+        int bare = Build.leaves(x, 0, 9);
         check.is("rows of two", 1, () -> x.match(rows, even, 400));
         check.is("as many", 2, () -> x.many(0, 1));
         check.is("not as many", 0, () -> x.match(rows, uneven, 400));
         check.is("a row of none is something", 1, () -> x.match(rows, bare, 400));
         check.is("and the same again", 0, () -> x.many(0, 1));
-        int behind = leaves(x, 0, 9, 1);
+        int behind = Build.leaves(x, 0, 9, 1);
         check.is("none isn't one", 0, () -> x.match(rows, behind, 400));
-        int mixed = node(x, 0, x.hole(2, SOME), x.hole(2, ONE));
+        int mixed = Build.node(x, 0, x.hole(2, Build.SOME), x.hole(2, Build.ONE));
         check.is("holes of other kinds share a name", 1, () -> x.match(mixed, same, 400));
     }
 
@@ -434,20 +400,20 @@ public final class PromiseTest {
         SequenceMatch x = new SequenceMatch();
         int a = x.leaf(1);
         int b = x.leaf(2);
-        int inner = node(x, 1, a);
-        int tree = node(x, 0, inner, b);
-        int short1 = node(x, 0, node(x, 1, a));
+        int inner = Build.node(x, 1, a);
+        int tree = Build.node(x, 0, inner, b);
+        int short1 = Build.node(x, 0, Build.node(x, 1, a));
         check.is("a tree is left in the outer row", 0, () -> x.match(short1, tree, 400));
         check.is("its own row came ahead of that", 3, x::tried);
-        int wrongEnd = node(x, 0, node(x, 1), b);
+        int wrongEnd = Build.node(x, 0, Build.node(x, 1), b);
         check.is("a tree is left in the inner row", 0, () -> x.match(wrongEnd, tree, 400));
         check.is("what is behind isn't tried", 2, x::tried);
-        int two = node(x, 0, node(x, 5, a, b), node(x, 5, a, b));
-        int left = x.hole(0, ONE);
-        int leftRest = x.hole(1, MANY);
-        int right = x.hole(2, ONE);
-        int rightRest = x.hole(3, MANY);
-        int pattern = node(x, 0, node(x, 5, left, leftRest), node(x, 5, right, rightRest));
+        int two = Build.node(x, 0, Build.node(x, 5, a, b), Build.node(x, 5, a, b));
+        int left = x.hole(0, Build.ONE);
+        int leftRest = x.hole(1, Build.MANY);
+        int right = x.hole(2, Build.ONE);
+        int rightRest = x.hole(3, Build.MANY);
+        int pattern = Build.node(x, 0, Build.node(x, 5, left, leftRest), Build.node(x, 5, right, rightRest));
         check.is("ways of both rows", 4, () -> x.match(pattern, two, 400));
         // The inner row: 1, and for each of two trees 1 + 2; its two ways each go on with the other row.
         check.is("tries", 1 + 7 + 2 * 7, x::tried);
@@ -458,8 +424,8 @@ public final class PromiseTest {
 
     private static void matchSpentAndKept() {
         SequenceMatch x = new SequenceMatch();
-        int tree = leaves(x, 5, 1, 2, 3, 4, 5);
-        int pattern = node(x, 5, x.hole(0, MANY), x.hole(1, MANY));
+        int tree = Build.leaves(x, 5, 1, 2, 3, 4, 5);
+        int pattern = Build.node(x, 5, x.hole(0, Build.MANY), x.hole(1, Build.MANY));
         check.is("32 matches", 32, () -> x.match(pattern, tree, 400));
         check.is("20 are kept", 20, () -> x.count(2));
         int needed = x.tried();
@@ -480,7 +446,7 @@ public final class PromiseTest {
         int leaf = x.leaf(1);
         check.is("one try is enough for a leaf", 1, () -> x.match(leaf, leaf, 1));
         check.is("a name without a hole", -1, () -> x.many(0, 0));
-        int wide = leaves(x, 5, 1, 2, 3, 4, 5, 6, 7, 8, 9, 10, 11, 12);
+        int wide = Build.leaves(x, 5, 1, 2, 3, 4, 5, 6, 7, 8, 9, 10, 11, 12);
         check.is("twelve are too many", -1, () -> x.match(pattern, wide, 400));
         check.is("400 tries", 400, x::tried);
     }
@@ -488,14 +454,14 @@ public final class PromiseTest {
     private static void matchWrong() {
         SequenceMatch x = new SequenceMatch();
         int leaf = x.leaf(1);
-        int hole = x.hole(0, ONE);
-        int holed = node(x, 0, node(x, 0, hole));
+        int hole = x.hole(0, Build.ONE);
+        int holed = Build.node(x, 0, Build.node(x, 0, hole));
         x.match(hole, leaf, 5);
         check.throwsIndex("no such pattern", () -> x.match(99, leaf, 400));
         check.throwsIndex("no such tree", () -> x.match(leaf, 99, 400));
         check.throwsIndex("pattern -1", () -> x.match(-1, leaf, 400));
-        check.throwsIndex("no such tree goes ahead of the tries", () -> x.match(leaf, LOW, 401));
-        check.throwsIndex("no such pattern goes ahead of not plain", () -> x.match(HIGH, hole, 400));
+        check.throwsIndex("no such tree goes ahead of the tries", () -> x.match(leaf, Build.LOW, 401));
+        check.throwsIndex("no such pattern goes ahead of not plain", () -> x.match(Build.HIGH, hole, 400));
         check.throwsArgument("a hole isn't plain", () -> x.match(leaf, hole, 400));
         check.throwsArgument("a hole deep within", () -> x.match(leaf, holed, 400));
         check.throwsArgument("401 tries", () -> x.match(leaf, leaf, 401));
@@ -509,9 +475,9 @@ public final class PromiseTest {
         SequenceMatch x = new SequenceMatch();
         check.is("0 without any", 0, x::tried);
         int leaf = x.leaf(1);
-        int hole = x.hole(0, ONE);
-        int tree = node(x, 0, leaf, leaf);
-        int pattern = node(x, 0, hole, hole);
+        int hole = x.hole(0, Build.ONE);
+        int tree = Build.node(x, 0, leaf, leaf);
+        int pattern = Build.node(x, 0, hole, hole);
         x.match(pattern, tree, 400);
         check.is("of a match", 3, x::tried);
         x.match(pattern, tree, 2);
@@ -532,14 +498,14 @@ public final class PromiseTest {
 
     private static void bound() {
         SequenceMatch x = new SequenceMatch();
-        int tree = leaves(x, 0, 1, 2, 3);
-        int pattern = node(x, 0, x.hole(7, MANY), x.hole(0, LEAF));
+        int tree = Build.leaves(x, 0, 1, 2, 3);
+        int pattern = Build.node(x, 0, x.hole(7, Build.MANY), x.hole(0, Build.LEAF));
         x.match(pattern, tree, 400);
         check.is("tree 0 of a name", tree + 1, () -> x.bound(0, 7, 0));
         check.is("tree 1", tree + 2, () -> x.bound(0, 7, 1));
         check.is("no tree 2", -1, () -> x.bound(0, 7, 2));
         check.is("no tree -1", -1, () -> x.bound(0, 7, -1));
-        check.is("none of the highest number", -1, () -> x.bound(0, 7, HIGH));
+        check.is("none of the highest number", -1, () -> x.bound(0, 7, Build.HIGH));
         check.is("another name", tree + 3, () -> x.bound(0, 0, 0));
         check.is("a name that has nothing", -1, () -> x.bound(0, 1, 0));
         check.throwsArgument("name 8", () -> x.bound(0, 8, 0));
@@ -551,8 +517,8 @@ public final class PromiseTest {
 
     private static void many() {
         SequenceMatch x = new SequenceMatch();
-        int tree = leaves(x, 0, 1, 2, 3);
-        int pattern = node(x, 0, x.hole(7, MANY), x.hole(6, MANY));
+        int tree = Build.leaves(x, 0, 1, 2, 3);
+        int pattern = Build.node(x, 0, x.hole(7, Build.MANY), x.hole(6, Build.MANY));
         x.match(pattern, tree, 400);
         check.is("a row of none", 0, () -> x.many(0, 7));
         check.is("a row of three", 3, () -> x.many(0, 6));
@@ -571,7 +537,7 @@ public final class PromiseTest {
     private static void rule() {
         SequenceMatch x = new SequenceMatch();
         int leaf = x.leaf(1);
-        int hole = x.hole(0, ONE);
+        int hole = x.hole(0, Build.ONE);
         check.throwsIndex("no such tree", () -> x.rule(2));
         check.throwsIndex("tree -1", () -> x.rule(-1));
         check.is("the first rule", 0, () -> x.rule(leaf));
@@ -585,111 +551,103 @@ public final class PromiseTest {
         check.is("30 rules", 30, () -> x.count(1));
         int node = x.node(0);
         check.throwsState("still no room", () -> x.rule(node));
-        check.is("what was refused is no rule", 1, () -> asNumber(x.more(node, leaf)));
+        check.isTrue("what was refused is no rule", () -> x.more(node, leaf));
     }
 
     private static void net() {
         SequenceMatch x = new SequenceMatch();
         int leaf = x.leaf(1);
         int node = x.node(0);
-        int hole = x.hole(0, ONE);
+        int hole = x.hole(0, Build.ONE);
         check.is("no rules", 0, () -> x.net(leaf));
         x.rule(hole);
-        x.rule(x.hole(0, LEAF));
-        x.rule(x.hole(0, SOME));
-        x.rule(x.hole(0, MANY));
+        x.rule(x.hole(0, Build.LEAF));
+        x.rule(x.hole(0, Build.SOME));
+        x.rule(x.hole(0, Build.MANY));
         x.rule(x.leaf(1));
         x.rule(x.leaf(2));
         x.rule(x.node(0));
         x.rule(x.node(1));
-        int tested = x.hole(0, ONE);
+        int tested = x.hole(0, Build.ONE);
         x.test(tested, 0, 50);
         x.rule(tested);
         check.is("those of a leaf", 6, () -> x.net(leaf));
-        check.same("by numbers", "0 1 2 3 4 8", told(x));
+        check.same("by numbers", "0 1 2 3 4 8", Build.told(x));
         check.is("those of a node", 5, () -> x.net(node));
-        check.same("by numbers", "0 2 3 6 8", told(x));
+        check.same("by numbers", "0 2 3 6 8", Build.told(x));
         check.is("none behind them", -1, () -> x.rules(5));
         check.is("none at -1", -1, () -> x.rules(-1));
-        check.is("none at the lowest", -1, () -> x.rules(LOW));
+        check.is("none at the lowest", -1, () -> x.rules(Build.LOW));
         check.throwsIndex("no such tree", () -> x.net(99));
         check.throwsArgument("not plain", () -> x.net(hole));
-        x.rule(x.hole(0, ONE));
+        x.rule(x.hole(0, Build.ONE));
         x.first(leaf);
-        check.same("told until the next time", "0 2 3 6 8", told(x));
+        check.same("told until the next time", "0 2 3 6 8", Build.told(x));
         check.is("the new rule is told then", 6, () -> x.net(node));
-    }
-
-    private static String told(SequenceMatch x) {
-        StringBuilder all = new StringBuilder();
-        for (int k = 0; x.rules(k) >= 0; k++) {
-            all.append(k == 0 ? "" : " ").append(x.rules(k));
-        }
-        return all.toString();
     }
 
     private static void netCounts() {
         SequenceMatch x = new SequenceMatch();
-        int one = x.hole(0, ONE);
-        int some = x.hole(1, SOME);
-        int many = x.hole(2, MANY);
-        x.rule(node(x, 0, one, one));
-        x.rule(node(x, 0, one, some));
-        x.rule(node(x, 0, one, many));
-        x.rule(node(x, 0, many, many));
-        x.rule(node(x, 0));
-        x.rule(node(x, 5, one, many));
+        int one = x.hole(0, Build.ONE);
+        int some = x.hole(1, Build.SOME);
+        int many = x.hole(2, Build.MANY);
+        x.rule(Build.node(x, 0, one, one));
+        x.rule(Build.node(x, 0, one, some));
+        x.rule(Build.node(x, 0, one, many));
+        x.rule(Build.node(x, 0, many, many));
+        x.rule(Build.node(x, 0));
+        x.rule(Build.node(x, 5, one, many));
         String[] due = {"3 4", "2 3", "0 1 2 3", "1 2 3"};
         int[][] names = {{}, {1}, {1, 1}, {1, 1, 1}};
         for (int i = 0; i < due.length; i++) {
-            x.net(leaves(x, 0, names[i]));
-            check.same("rules for " + i + " parts", due[i], told(x));
+            x.net(Build.leaves(x, 0, names[i]));
+            check.same("rules for " + i + " parts", due[i], Build.told(x));
         }
-        x.net(leaves(x, 5));
-        check.same("in any order, none", "", told(x));
-        x.net(leaves(x, 5, 1, 2, 3));
-        check.same("in any order, three", "5", told(x));
+        x.net(Build.leaves(x, 5));
+        check.same("in any order, none", "", Build.told(x));
+        x.net(Build.leaves(x, 5, 1, 2, 3));
+        check.same("in any order, three", "5", Build.told(x));
     }
 
     private static void netStarts() {
         SequenceMatch x = new SequenceMatch();
-        int many = x.hole(2, MANY);
-        x.rule(node(x, 4, x.leaf(1), many));
-        x.rule(node(x, 4, x.leaf(2), many));
-        x.rule(node(x, 4, x.node(1), many));
-        x.rule(node(x, 4, node(x, 2, x.leaf(1)), many));
-        x.rule(node(x, 4, many, x.leaf(1)));
-        x.rule(node(x, 5, x.leaf(1), many));
-        x.net(leaves(x, 4, 1, 1));
-        check.same("a leaf of the same name", "0 4", told(x));
-        x.net(leaves(x, 4, 2, 1));
-        check.same("the other name", "1 4", told(x));
-        x.net(node(x, 4, x.node(1)));
-        check.same("a node of the same head", "2 4", told(x));
-        x.net(node(x, 4, x.node(2), x.leaf(1)));
-        check.same("its parts aren't asked", "3 4", told(x));
-        x.net(leaves(x, 5, 7, 8));
-        check.same("in any order the first part isn't asked", "5", told(x));
+        int many = x.hole(2, Build.MANY);
+        x.rule(Build.node(x, 4, x.leaf(1), many));
+        x.rule(Build.node(x, 4, x.leaf(2), many));
+        x.rule(Build.node(x, 4, x.node(1), many));
+        x.rule(Build.node(x, 4, Build.node(x, 2, x.leaf(1)), many));
+        x.rule(Build.node(x, 4, many, x.leaf(1)));
+        x.rule(Build.node(x, 5, x.leaf(1), many));
+        x.net(Build.leaves(x, 4, 1, 1));
+        check.same("a leaf of the same name", "0 4", Build.told(x));
+        x.net(Build.leaves(x, 4, 2, 1));
+        check.same("the other name", "1 4", Build.told(x));
+        x.net(Build.node(x, 4, x.node(1)));
+        check.same("a node of the same head", "2 4", Build.told(x));
+        x.net(Build.node(x, 4, x.node(2), x.leaf(1)));
+        check.same("its parts aren't asked", "3 4", Build.told(x));
+        x.net(Build.leaves(x, 5, 7, 8));
+        check.same("in any order the first part isn't asked", "5", Build.told(x));
     }
 
     private static void first() {
         SequenceMatch x = new SequenceMatch();
         int leaf = x.leaf(1);
-        int tree = leaves(x, 0, 3, 4);
-        int equalPair = node(x, 0, x.hole(0, ONE), x.hole(0, ONE));
-        int pair = node(x, 0, x.hole(1, ONE), x.hole(2, ONE));
+        int tree = Build.leaves(x, 0, 3, 4);
+        int equalPair = Build.node(x, 0, x.hole(0, Build.ONE), x.hole(0, Build.ONE));
+        int pair = Build.node(x, 0, x.hole(1, Build.ONE), x.hole(2, Build.ONE));
         check.is("no rule", -1, () -> x.first(leaf));
         x.rule(leaf);
         x.rule(equalPair);
         x.rule(pair);
-        x.rule(x.hole(3, ONE));
+        x.rule(x.hole(3, Build.ONE));
         check.is("the first that has a match", 2, () -> x.first(tree));
         check.is("its matches are kept", 1, () -> x.count(2));
         check.is("with their trees", tree + 2, () -> x.bound(0, 2, 0));
         check.is("nothing of the rule ahead of it", -1, () -> x.many(0, 0));
         check.is("tries of the last rule asked", 3, x::tried);
         check.is("a leaf", 0, () -> x.first(leaf));
-        int hole = x.hole(0, ONE);
+        int hole = x.hole(0, Build.ONE);
         check.throwsIndex("no such tree", () -> x.first(99));
         check.throwsIndex("tree -1", () -> x.first(-1));
         check.throwsArgument("not plain", () -> x.first(hole));
@@ -697,12 +655,12 @@ public final class PromiseTest {
         check.is("nothing changed: tries", 1, x::tried);
 
         SequenceMatch y = new SequenceMatch();
-        int two = leaves(y, 0, 3, 4);
-        int any = y.hole(0, ONE);
+        int two = Build.leaves(y, 0, 3, 4);
+        int any = y.hole(0, Build.ONE);
         y.match(any, two, 1);
         check.is("no rules", -1, () -> y.first(two));
         check.is("none being kept", 0, () -> y.count(2));
-        y.rule(node(y, 0, y.hole(0, ONE), y.hole(0, ONE)));
+        y.rule(Build.node(y, 0, y.hole(0, Build.ONE), y.hole(0, Build.ONE)));
         y.match(any, two, 1);
         check.is("none has a match", -1, () -> y.first(two));
         check.is("none being kept then", 0, () -> y.count(2));
@@ -711,24 +669,24 @@ public final class PromiseTest {
 
     private static void firstSpent() {
         SequenceMatch x = new SequenceMatch();
-        int wide = leaves(x, 5, 1, 2, 3, 4, 5, 6, 7);
-        int all = x.hole(0, MANY);
-        int rest = x.hole(1, MANY);
+        int wide = Build.leaves(x, 5, 1, 2, 3, 4, 5, 6, 7);
+        int all = x.hole(0, Build.MANY);
+        int rest = x.hole(1, Build.MANY);
         int none = x.leaf(99);
         // Each of the 128 choices leaves 2 to the power of what is left, and no leaf is 99: far above 400 tries.
-        x.rule(node(x, 5, all, rest, none));
+        x.rule(Build.node(x, 5, all, rest, none));
         check.is("spent without a match", -1, () -> x.first(wide));
         check.is("those left, all 400", 400, x::tried);
-        x.rule(x.hole(2, ONE));
+        x.rule(x.hole(2, Build.ONE));
         check.is("those behind it have no tries left", -1, () -> x.first(wide));
         check.is("and make none", 0, x::tried);
         check.is("none kept", 0, () -> x.count(2));
         check.is("a tree that only the hole may match", 1, () -> x.first(none));
 
         SequenceMatch y = new SequenceMatch();
-        int tree = leaves(y, 5, 1, 2, 3, 4, 5, 6, 7);
-        y.rule(node(y, 5, y.hole(0, ONE), y.leaf(98)));
-        y.rule(node(y, 5, y.hole(0, MANY), y.hole(1, MANY)));
+        int tree = Build.leaves(y, 5, 1, 2, 3, 4, 5, 6, 7);
+        y.rule(Build.node(y, 5, y.hole(0, Build.ONE), y.leaf(98)));
+        y.rule(Build.node(y, 5, y.hole(0, Build.MANY), y.hole(1, Build.MANY)));
         check.is("a spent rule has what it found by then", 1, () -> y.first(tree));
         // 1 + (1 + 128) tries to the first match, 1 + 64 more to each of the next seven: four are within 400.
         check.is("those are kept", 5, () -> y.count(2));
@@ -738,8 +696,8 @@ public final class PromiseTest {
 
     private static void firstExactlySpent() {
         SequenceMatch x = new SequenceMatch();
-        int tree = leaves(x, 5, 1, 2, 3);
-        int vain = node(x, 5, x.hole(0, ONE), x.hole(1, MANY), x.leaf(50));
+        int tree = Build.leaves(x, 5, 1, 2, 3);
+        int vain = Build.node(x, 5, x.hole(0, Build.ONE), x.hole(1, Build.MANY), x.leaf(50));
         x.match(vain, tree, 400);
         // 1, and for each of three trees 1 + (1 + 2) + (1 + 1) * 2 + 1.
         int each = x.tried();
@@ -747,7 +705,7 @@ public final class PromiseTest {
         for (int r = 0; r < 14; r++) {
             x.rule(vain);
         }
-        x.rule(node(x, 5, x.hole(0, MANY)));
+        x.rule(Build.node(x, 5, x.hole(0, Build.MANY)));
         // 14 * 28 = 392 of 400: root and rows of 0, and of 1: 1 + 1 + 3, then 3 rows of 2: 8 tries; the ninth is due.
         check.is("the last rule is spent one try ahead of its match", -1, () -> x.first(tree));
         check.is("those left", 8, x::tried);
@@ -757,8 +715,9 @@ public final class PromiseTest {
     private static void order() {
         SequenceMatch x = new SequenceMatch();
         int[] rising = {
-            x.leaf(0), x.leaf(1), x.leaf(99), x.node(0), leaves(x, 0, 1), leaves(x, 0, 2), node(x, 0, x.node(0)),
-            leaves(x, 0, 0, 0), leaves(x, 0, 0, 1), leaves(x, 0, 1, 0), x.node(1), x.node(5), leaves(x, 9, 3)};
+            x.leaf(0), x.leaf(1), x.leaf(99), x.node(0), Build.leaves(x, 0, 1), Build.leaves(x, 0, 2),
+            Build.node(x, 0, x.node(0)), Build.leaves(x, 0, 0, 0), Build.leaves(x, 0, 0, 1), Build.leaves(x, 0, 1, 0),
+            x.node(1), x.node(5), Build.leaves(x, 9, 3)};
         for (int i = 0; i < rising.length; i++) {
             for (int j = 0; j < rising.length; j++) {
                 int a = rising[i];
@@ -766,11 +725,11 @@ public final class PromiseTest {
                 check.is("order of " + i + " and " + j, Integer.compare(i, j), () -> x.order(a, b));
             }
         }
-        int some = leaves(x, 6, 2, 1);
-        int turned = leaves(x, 6, 1, 2);
+        int some = Build.leaves(x, 6, 2, 1);
+        int turned = Build.leaves(x, 6, 1, 2);
         check.is("any order makes them equal", 0, () -> x.order(some, turned));
-        int hole = x.hole(0, ONE);
-        int holed = node(x, 0, hole);
+        int hole = x.hole(0, Build.ONE);
+        int holed = Build.node(x, 0, hole);
         check.throwsArgument("the first isn't plain", () -> x.order(hole, some));
         check.throwsArgument("the second isn't plain", () -> x.order(some, holed));
         check.throwsIndex("no such first tree", () -> x.order(239, some));
@@ -780,8 +739,8 @@ public final class PromiseTest {
 
     private static void partsAndPart() {
         SequenceMatch x = new SequenceMatch();
-        int tree = leaves(x, 0, 5, 6);
-        int hole = x.hole(0, ONE);
+        int tree = Build.leaves(x, 0, 5, 6);
+        int hole = x.hole(0, Build.ONE);
         check.is("two parts", 2, () -> x.parts(tree));
         check.is("a leaf has none", 0, () -> x.parts(tree + 1));
         check.is("a hole has none", 0, () -> x.parts(hole));
@@ -792,15 +751,15 @@ public final class PromiseTest {
         check.is("no part 2", -1, () -> x.part(tree, 2));
         check.is("no part 12", -1, () -> x.part(tree, 12));
         check.is("no part -1", -1, () -> x.part(tree, -1));
-        check.is("no part of the highest number", -1, () -> x.part(tree, HIGH));
+        check.is("no part of the highest number", -1, () -> x.part(tree, Build.HIGH));
         check.is("no part of a leaf", -1, () -> x.part(tree + 1, 0));
         check.throwsIndex("no such tree has no part", () -> x.part(4, 0));
-        check.throwsIndex("nor has tree -1", () -> x.part(LOW, 0));
+        check.throwsIndex("nor has tree -1", () -> x.part(Build.LOW, 0));
     }
 
     private static void count() {
         SequenceMatch x = new SequenceMatch();
-        int tree = leaves(x, 0, 5, 6);
+        int tree = Build.leaves(x, 0, 5, 6);
         x.rule(tree);
         x.match(tree, tree, 400);
         check.is("trees", 3, () -> x.count(0));
@@ -808,6 +767,6 @@ public final class PromiseTest {
         check.is("matches", 1, () -> x.count(2));
         check.is("what 3", -1, () -> x.count(3));
         check.is("what -1", -1, () -> x.count(-1));
-        check.is("the highest what", -1, () -> x.count(HIGH));
+        check.is("the highest what", -1, () -> x.count(Build.HIGH));
     }
 }
