@@ -239,6 +239,24 @@ final class MatchBoundaries {
         check.same("name 0", "[T1] [T2] [T3] [T1,T2] [T1,T3] [T2,T3]", named(Build.given(x, 0), tree, 3));
     }
 
+    static void promise7_someInAnyOrderReachesTheLastOfTwelve(Check check) {
+        SequenceMatch x = new SequenceMatch();
+        int hole = x.hole(0, Build.SOME);
+        x.test(hole, 0, 11);
+        int pattern = Build.node(x, 5, hole);
+        for (int name = 1; name <= 11; name++) {
+            x.more(pattern, x.leaf(name));
+        }
+        int tree = Build.leaves(x, 5, 1, 2, 3, 4, 5, 6, 7, 8, 9, 10, 11, 12);
+        // The root, 12 choices of one, and 11 leaves, each beside the first of those left: the match is at try 24.
+        check.is("all choices of four are too many", -1, () -> x.match(pattern, tree, 400));
+        check.same("leaf 12", "[T12]", named(Build.given(x, 0), tree, 12));
+        check.is("24 tries", -1, () -> x.match(pattern, tree, 24));
+        check.is("kept", 1, () -> x.count(2));
+        check.is("23 tries", -1, () -> x.match(pattern, tree, 23));
+        check.is("none kept", 0, () -> x.count(2));
+    }
+
     static void promise7_severalOfThoseLeftWithGaps(Check check) {
         SequenceMatch x = new SequenceMatch();
         int pattern = Build.node(x, 5, x.leaf(2), x.hole(0, Build.SOME), x.hole(1, Build.MANY));
@@ -255,6 +273,19 @@ final class MatchBoundaries {
         int inAny = Build.node(x, 5, x.hole(0, Build.ONE), x.hole(1, Build.ONE));
         int anyTree = Build.leaves(x, 5, 1, 2);
         check.is("head 5", 2, () -> x.match(inAny, anyTree, 400));
+    }
+
+    static void promise7_sixHolesBesideFiveTrees(Check check) {
+        SequenceMatch x = new SequenceMatch();
+        int hole = x.hole(0, Build.ONE);
+        int pattern = Build.repeat(x, 5, hole, 6);
+        int tree = Build.repeat(x, 5, x.leaf(1), 5);
+        check.is("all ways end with none for the last", 0, () -> x.match(pattern, tree, 400));
+        check.is("tries", 1 + 5 + 20 + 60 + 120 + 120, x::tried);
+        int seven = Build.repeat(x, 5, hole, 7);
+        int six = Build.repeat(x, 5, x.leaf(1), 6);
+        check.is("seven beside six", -1, () -> x.match(seven, six, 400));
+        check.is("spent", 400, x::tried);
     }
 
     static void promise7_equalTreesAreWaysOfTheirOwn(Check check) {

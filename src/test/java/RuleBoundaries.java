@@ -258,6 +258,16 @@ final class RuleBoundaries {
         mayMatch(check, "5 7", "0", x, Build.leaves(x, 4, 5, 7));
     }
 
+    static void promise12_firstPartIsAskedNotTheSecond(Check check) {
+        SequenceMatch x = new SequenceMatch();
+        int hole = x.hole(0, Build.ONE);
+        x.rule(Build.node(x, 4, x.leaf(5), hole));
+        x.rule(Build.node(x, 4, hole, x.leaf(5)));
+        mayMatch(check, "5 5", "0 1", x, Build.leaves(x, 4, 5, 5));
+        mayMatch(check, "5 6", "0 1", x, Build.leaves(x, 4, 5, 6));
+        mayMatch(check, "6 6", "1", x, Build.leaves(x, 4, 6, 6));
+    }
+
     static void promise12_firstPartInAnyOrderIsNotAsked(Check check) {
         SequenceMatch x = new SequenceMatch();
         x.rule(Build.leaves(x, 4, 5));

@@ -962,6 +962,25 @@ final class TreeBoundaries {
         isAhead(check, x, "the last parts", a, b);
     }
 
+    static void promise15_fullNodesAreEqual(Check check) {
+        SequenceMatch x = new SequenceMatch();
+        int leaf = x.leaf(1);
+        int other = x.leaf(2);
+        int a = Build.repeat(x, 0, leaf, 12);
+        Build.repeat(x, 0, leaf, 1);
+        int b = Build.repeat(x, 0, leaf, 12);
+        Build.repeat(x, 0, other, 1);
+        check.is("12 and 12 parts", 0, () -> x.order(a, b));
+    }
+
+    static void promise15_tree239IsTheLast(Check check) {
+        SequenceMatch x = new SequenceMatch();
+        Build.fill(x);
+        check.is("239 and 238", 0, () -> x.order(239, 238));
+        check.throwsIndex("240 and 0", () -> x.order(240, 0));
+        check.throwsIndex("0 and 240", () -> x.order(0, 240));
+    }
+
     static void promise15_partsDifferAtTheDeepest(Check check) {
         SequenceMatch x = new SequenceMatch();
         int a = Build.chain(x, x.leaf(1), 20);
