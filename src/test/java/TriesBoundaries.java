@@ -106,6 +106,42 @@ final class TriesBoundaries {
         check.is("made", 400, x::tried);
     }
 
+    static void promise7_try401IsTheFirstTooMany(Check check) {
+        SequenceMatch x = new SequenceMatch();
+        int tree = Build.repeat(x, 5, Build.repeat(x, 1, x.leaf(1), 7), 8);
+        int inner = x.node(1);
+        for (int name = 0; name < 8; name++) {
+            x.more(inner, x.hole(name, Build.ONE));
+        }
+        int pattern = Build.node(x, 5, x.hole(7, Build.ONE), inner);
+        // For each of 8 trees one try and, for each of the 7 others, one and 7: 57. The eighth hole has none left.
+        // Every try goes on to a next part, so that by 1 + 7 * 57 tries nearly all ways have been gone back, too.
+        check.is("spent", -1, () -> x.match(pattern, tree, 400));
+        check.is("made", 400, x::tried);
+        check.is("none kept", 0, () -> x.count(2));
+    }
+
+    static void promise7_exactly400TriesAreNotSpent(Check check) {
+        SequenceMatch x = new SequenceMatch();
+        int leaf = x.leaf(1);
+        int hole = x.hole(0, Build.ONE);
+        int tree = Build.repeat(x, 5, Build.node(x, 1, leaf, leaf, Build.repeat(x, 5, leaf, 3)), 5);
+        int inner = Build.node(x, 1, hole, hole, Build.repeat(x, 5, hole, 4));
+        int pattern = Build.node(x, 5, x.hole(1, Build.ONE), inner);
+        // The inner row: 2, then 1 + 3 + 6 + 6; with the node 19, for each of 4 others, for each of 5; and the root.
+        check.is("386 tries", 0, () -> x.match(pattern, tree, 400));
+        check.is("made", 1 + 5 * (1 + 4 * 19), x::tried);
+        int needs400 = Build.chain(x, pattern, 14);
+        int deepTree = Build.chain(x, tree, 14);
+        check.is("400 tries", 0, () -> x.match(needs400, deepTree, 400));
+        check.is("made of 400", 400, x::tried);
+        check.is("399 tries", -1, () -> x.match(needs400, deepTree, 399));
+        int needs401 = Build.chain(x, needs400, 1);
+        int deeperTree = Build.chain(x, deepTree, 1);
+        check.is("401 are needed", -1, () -> x.match(needs401, deeperTree, 400));
+        check.is("made of 401", 400, x::tried);
+    }
+
     // Promise 7: the first 20 are kept.
 
     static void promise7_20MatchesAreAllKept(Check check) {
