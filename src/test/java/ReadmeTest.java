@@ -62,8 +62,9 @@ public final class ReadmeTest {
     private static void everyCallIsTold(Check check, String readme) {
         for (Method method : SequenceMatch.class.getDeclaredMethods()) {
             if (Modifier.isPublic(method.getModifiers())) {
-                check.same(method.getName() + " stands in the table", true, readme.contains("`" + method.getName() + "("));
-                check.same(method.getName() + " stands in the example", true, readme.contains("x." + method.getName() + "("));
+                String call = method.getName() + "(";
+                check.same(call + " stands in the table", true, readme.contains("`" + call));
+                check.same(call + " stands in the example", true, readme.contains("x." + call));
             }
         }
     }
